@@ -226,8 +226,9 @@ public final class AccessTest {
         WalkHouse house = Check.chain();
         house.entry(2, 0, 2, 100, 3);
         house.current(0);
-        house.would(0, 1);
-        house.steps(0, 1);
+        check.is("steps asked first", 6, house.steps(0, 1));
+        check.is("steps of another", 1, house.steps(64, 1));
+        check.is("would", 100, house.would(0, 1));
         for (int what = 1; what <= 9; what++) {
             check.is("count(" + what + ")", 0, house.count(what));
         }

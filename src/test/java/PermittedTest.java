@@ -34,6 +34,9 @@ public final class PermittedTest {
         check.is("refused", -1, house.many(0, -1));
         check.is("refused", -1, house.many(0, 512));
         house.entry(0, 7, 2, 999, 0);
+        house.entry(0, 3, 2, 0, 0);
+        check.yes("frame 0", house.permitted(0, 192, 0));
+        check.is("frame 0 counts", 1, house.many(0, 192));
         check.yes("a frame behind the last page's", house.permitted(0, 511, 1062));
         check.is("many", 1, house.many(0, 511));
     }
@@ -94,6 +97,12 @@ public final class PermittedTest {
         check.is("many", 2, house.many(0, 0));
         check.yes("with what is left of a wide one", house.permitted(0, 63, 463));
         check.is("the same entry as it was at two times", 2, twice().many(0, 0));
+        house.root(1, 6);
+        house.root(1, 7);
+        house.entry(6, 0, 1, 8, 0);
+        house.entry(7, 0, 2, 60, 0);
+        house.entry(8, 0, 2, 90, 0);
+        check.is("what one root leads to, another does not hide", 2, house.many(1, 0));
     }
 
     private static WalkHouse twice() {

@@ -74,6 +74,10 @@ public final class WayTest {
         check.is("faults are no frames", -1, house.reverse(0, -4, 0));
         house.entry(0, 7, 2, 999, 1);
         check.is("a frame behind the last page's", 511, house.reverse(0, 999 + 63, 0));
+        check.is("only up to the last address", -1, house.reverse(0, 999 + 63, 1));
+        house.entry(2, 0, 2, 0, 0);
+        check.is("frame 0", 0, house.reverse(0, 0, 0));
+        check.is("frame 0", 1, house.reverse(0, 0, -1));
         house.entry(3, 0, 2, 8, 0);
         house.entry(3, 1, 2, 8, 0);
         house.root(1, 3);
