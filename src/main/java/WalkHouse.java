@@ -314,20 +314,10 @@ public final class WalkHouse {
 
     public int cached(int place, int what) throws NoSuchElementException {
         Place held = cache.heldAt(place);
-        if (held == null) {
+        if (held == null || what < 0 || what > 7) {
             throw new NoSuchElementException();
         }
         switch (what) {
-            case 0:
-                return held.tag;
-            case 1:
-                return held.level;
-            case 2:
-                return held.first;
-            case 3:
-                return held.target;
-            case 4:
-                return held.rights;
             case 5:
                 return held.dirty;
             case 6:
@@ -335,32 +325,22 @@ public final class WalkHouse {
             case 7:
                 return isStalePage(held) ? 1 : 0;
             default:
-                throw new NoSuchElementException();
+                return held.told(what);
         }
     }
 
     public int upper(int place, int what) throws NoSuchElementException {
         Place held = uppers.heldAt(place);
-        if (held == null) {
+        if (held == null || what < 0 || what > 6) {
             throw new NoSuchElementException();
         }
         switch (what) {
-            case 0:
-                return held.tag;
-            case 1:
-                return held.level;
-            case 2:
-                return held.first;
-            case 3:
-                return held.target;
-            case 4:
-                return held.rights;
             case 5:
                 return uppers.usedLaterThan(held);
             case 6:
                 return isStaleUpper(held) ? 1 : 0;
             default:
-                throw new NoSuchElementException();
+                return held.told(what);
         }
     }
 
@@ -930,6 +910,22 @@ public final class WalkHouse {
 
         int frameAt(int address) {
             return target + restOf(address, level);
+        }
+
+        /** What both caches tell of a place by the same number. */
+        int told(int what) {
+            switch (what) {
+                case 0:
+                    return tag;
+                case 1:
+                    return level;
+                case 2:
+                    return first;
+                case 3:
+                    return target;
+                default:
+                    return rights;
+            }
         }
     }
 
