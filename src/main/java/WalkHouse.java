@@ -361,7 +361,7 @@ public final class WalkHouse {
     }
 
     public int reverse(int space, int frame, int i) {
-        if (!isSpace(space) || frame < 0 || i < NONE) {
+        if (!isSpace(space) || i < NONE) {
             return NONE;
         }
         int found = 0;

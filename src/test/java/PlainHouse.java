@@ -623,12 +623,12 @@ final class PlainHouse {
     }
 
     int reverse(int space, int frame, int i) {
-        if (!in(space, 6) || frame < 0 || i < -1) {
+        if (!in(space, 6) || i < -1) {
             return -1;
         }
         List<Integer> found = new ArrayList<>();
         for (int address = 0; address < 512; address++) {
-            if (way(space, address, 0) == frame) {
+            if (way(space, address, 1) != -1 && way(space, address, 0) == frame) {
                 found.add(address);
             }
         }

@@ -195,7 +195,7 @@ public final class RandomRunsTest {
                 return same(k, "many(" + s + ", " + a + ")", plain.many(s, a), house.many(s, a));
             }
             case 19: {
-                int s = space(), f = frame(), i = random.nextInt(20) - 2;
+                int s = space(), f = random.nextInt(10) == 0 ? -1 - random.nextInt(7) : frame(), i = random.nextInt(20) - 2;
                 return same(k, "reverse(" + s + ", " + f + ", " + i + ")", plain.reverse(s, f, i), house.reverse(s, f, i));
             }
             case 20: {

@@ -70,8 +70,14 @@ public final class WayTest {
         check.is("refused", -1, house.reverse(-1, 207, -1));
         check.is("refused", -1, house.reverse(6, 207, -1));
         check.is("refused", -1, house.reverse(0, 207, -2));
-        check.is("refused", -1, house.reverse(0, -1, -1));
-        check.is("faults are no frames", -1, house.reverse(0, -4, 0));
+        check.is("refused", -1, house.reverse(-1, -1, -1));
+        check.is("refused", -1, house.reverse(0, -1, -2));
+        int[] framesOfNone = {Integer.MIN_VALUE, -6, -5, -4, -3, -2, -1, 1000, 1063, Integer.MAX_VALUE};
+        for (int frame : framesOfNone) {
+            check.is("none of frame " + frame, 0, house.reverse(0, frame, -1));
+            check.is("none of frame " + frame, 0, house.reverse(1, frame, -1));
+            check.is("no first of frame " + frame, -1, house.reverse(0, frame, 0));
+        }
         house.entry(0, 7, 2, 999, 1);
         check.is("a frame behind the last page's", 511, house.reverse(0, 999 + 63, 0));
         check.is("only up to the last address", -1, house.reverse(0, 999 + 63, 1));
