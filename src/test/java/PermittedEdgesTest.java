@@ -4,6 +4,7 @@ public final class PermittedEdgesTest {
         Check check = new Check();
         nothingAtFirst(check);
         leastAndGreatest(check);
+        noFrameForAnother(check);
         others(check);
         sinceTheLatestFence(check);
         fencesOfOthers(check);
@@ -51,6 +52,21 @@ public final class PermittedEdgesTest {
         Run.of(check, "the FRAME of the ADDRESS, of a PAGE of LEVEL 1", "root(0, 0)", "entry(0, 0, 1, 1, 0)", "entry(1, 7, 2, 999, 0)",
                 "permitted(0, 63, 1006) = 1", "permitted(0, 56, 999) = 1", "permitted(0, 55, 998) = 0", "many(0, 55) = 0",
                 "permitted(0, 63, 999) = 0");
+    }
+
+    /** Frames 0 to 40 are all permitted at once, and none of the numbers around them is. */
+    private static void noFrameForAnother(Check check) {
+        Run run = Run.of(check, "a number that is no FRAME is not PERMITTED, whatever FRAMES are", "root(0, 0)");
+        for (int frame = 0; frame <= 40; frame++) {
+            run.row("entry(0, 0, 2, " + frame + ", 0)");
+        }
+        run.row("many(0, 0) = 41");
+        for (int frame = -70; frame <= 110; frame++) {
+            run.is(frame >= 0 && frame <= 40 ? 1 : 0, "permitted(0, 0, " + frame + ")");
+        }
+        for (int k = 10; k < 32; k++) {
+            run.is(0, "permitted(0, 0, " + (1 << k) + ")").is(0, "permitted(0, 0, " + ((1 << k) + 5) + ")");
+        }
     }
 
     private static void others(Check check) {
@@ -195,6 +211,15 @@ public final class PermittedEdgesTest {
         }
         run.rows("many(5, 0) = 2", "permitted(5, 0, 100) = 1", "root(4, -1)", "many(5, 0) = 1", "permitted(5, 0, 100) = 0",
                 "permitted(5, 0, 200) = 1");
+        // The oldest of the forty is that of the root, and yet the fence is later: it does not count.
+        run = Run.of(check, "remembered, but ahead of the FENCE: of a ROOT", "entry(0, 0, 2, 100, 7)", "entry(1, 0, 2, 200, 7)", "root(5, 0)",
+                "root(5, 1)", "fenceSpace(5)", "many(5, 0) = 1");
+        changes(run, 0, 39).rows("many(5, 0) = 1", "permitted(5, 0, 100) = 0");
+        changes(run, 39, 1).row("many(5, 0) = 1");
+        run = Run.of(check, "remembered, but ahead of the FENCE: of an ENTRY", "root(5, 0)", "entry(0, 0, 2, 100, 7)", "entry(0, 0, 2, 200, 7)",
+                "fence(0, 5)", "many(5, 0) = 1");
+        changes(run, 0, 39).rows("many(5, 0) = 1", "permitted(5, 0, 100) = 0");
+        changes(run, 39, 1).row("many(5, 0) = 1");
     }
 
     private static void roundTheForty(Check check) {
