@@ -149,6 +149,13 @@ public final class AccessEdgesTest {
         run.rows("count(8) = 1", "entry(0, 0, 1, 1, 7)");
         // The place in the upper is as the entry was when it came.
         access(run, 0, 1, -6, 1);
+        run = Run.of(check, "4, behind a PLACE of the UPPER without any RIGHTS", "root(0, 0)", "entry(0, 0, 1, 1, 8)", "entry(1, 0, 2, 10, 15)",
+                "current(0)");
+        access(run, 0, 0, 10, 4);
+        run.rows("upper(0, 4) = 0", "cached(0, 4) = 8");
+        for (int wants = 1; wants < 8; wants++) {
+            access(run, 0, wants, -6, 1);
+        }
     }
 
     private static void noRootButAPlace(Check check) {
@@ -160,6 +167,12 @@ public final class AccessEdgesTest {
         access(run, 64, 0, -3, 0);
         run.row("fenceSpace(0) = 4");
         access(run, 1, 0, -3, 0);
+        run = Run.of(check, "of PLACES that FIT, ahead of a WALK: a HIT needs no ROOT", "root(0, 0)", "entry(0, 0, 2, 10, 7)", "current(0)",
+                "access(5, 1) = 15", "root(0, -1) = 0");
+        access(run, 5, 1, 15, 0);
+        access(run, 63, 6, 73, 0);
+        run.rows("count(6) = 2", "count(9) = 0", "fence(0, 0) = 1");
+        access(run, 5, 1, -3, 0);
     }
 
     private static void whatFaultedIsNotMarked(Check check) {
@@ -281,6 +294,10 @@ public final class AccessEdgesTest {
                 "entry(0, 1, 1, 3, 7)", "entry(0, 2, 1, 3, 7)", "entry(0, 3, 1, 3, 7)", "entry(0, 4, 1, 3, 7)", "entry(0, 5, 1, 3, 7)",
                 "access(0, 0) = 10", "access(64, 0) = -4", "access(128, 0) = -4", "access(192, 0) = -4", "access(256, 0) = -4",
                 "count(2) = 6", "access(320, 0) = -4", "upper(0, 2) = 320", "steps(1, 0) = 1", "access(1, 0) = -4", "count(8) = 1");
+        // Places 0 and 1 have the address under them, place 2 came last; that of level 2 is not used beside that of level 1.
+        new Run(check, "it is used: the one behind which the WALK begins, no other").rows(CHAIN).rows("entry(0, 1, 1, 3, 7)", "access(0, 0) = -4",
+                "access(64, 0) = -4", "upper(0, 5) = 2", "upper(1, 5) = 1", "upper(2, 5) = 0", "access(1, 0) = -4", "upper(0, 5) = 2",
+                "upper(1, 5) = 0", "upper(2, 5) = 1", "begin(0, 2, 0, true) = 1", "upper(0, 5) = 2");
     }
 
     private static void anUpperPlaceOfAnotherTag(Check check) {

@@ -7,12 +7,14 @@ public final class CachesEdgesTest {
         fillingTheCache(check);
         fillingTheUpper(check);
         usedLongestAgo(check);
+        usedLongestAgoWhateverItIs(check);
         usedLongestAgoOfTheUpper(check);
         oneOfTheSame(check);
         anotherTagLevelOrAddress(check);
         theLowestEmptyPlace(check);
         usedLater(check);
         whatAPlaceTells(check);
+        asThePageWas(check);
         staleIsOfTheSpaceThatHasItsTag(check);
         staleWithoutRegardToMarks(check);
         staleByEveryPart(check);
@@ -86,7 +88,35 @@ public final class CachesEdgesTest {
         sixPages(check, "what comes or is used is the latest: of the CACHE").rows("access(0, 0) = 10", "access(2, 0) = 12", "access(6, 0) = 16",
                 "cached(1, 3) = 16", "access(7, 0) = 17", "cached(3, 3) = 17", "access(4, 0) = 14", "access(1, 0) = 11", "cached(5, 3) = 11",
                 "access(3, 0) = 13", "cached(0, 3) = 13", "count(6) = 3");
+        Run.of(check, "what is used is the latest: a wide one, and one of another TAG", "root(0, 0)", "root(1, 1)", "entry(0, 0, 2, 10, 7)",
+                "entry(0, 1, 2, 80, 15)", "entry(0, 2, 2, 300, 7)", "current(0)", "access(0, 0) = 10", "access(64, 0) = 80", "access(128, 0) = 300",
+                "cached(0, 6) = 2", "access(63, 0) = 73", "cached(0, 6) = 0", "cached(1, 6) = 2", "current(1)", "access(127, 0) = 143", "cached(1, 6) = 0",
+                "cached(0, 6) = 1", "cached(2, 6) = 2");
         sixPages(check, "would() and steps() are no use").rows("would(0, 0) = 10", "steps(0, 0) = 0", "access(6, 0) = 16", "cached(0, 3) = 16");
+    }
+
+    /** Whatever is in the place used longest ago: a global page, one of another tag, one that is wide, one that is stale. */
+    private static void usedLongestAgoWhateverItIs(Check check) {
+        sixPages(check, "that used longest ago: a GLOBAL one").rows("fenceAll() = 8", "entry(2, 1, 2, 11, 15)", "access(0, 0)", "access(1, 0)",
+                "access(2, 0)", "access(3, 0)", "access(4, 0)", "access(5, 0)", "access(0, 0)", "cached(1, 4) = 15", "access(6, 0) = 16",
+                "cached(1, 3) = 16", "cached(0, 3) = 10", "cached(2, 3) = 12");
+        for (int first = 0; first < 3; first++) {
+            Run run = sixPages(check, "that used longest ago: of whichever TAG").rows("root(2, 0)", "fenceAll() = 8", "current(1)", "current(2)");
+            for (int i = 0; i < 6; i++) {
+                run.is((first + i) % 3, "current(" + (first + i) % 3 + ")").is(10 + i, "access(" + i + ", 0)");
+            }
+            for (int i = 0; i < 6; i++) {
+                run.is(5 - i, "cached(" + i + ", 6)").is((first + i) % 3, "cached(" + i + ", 0)");
+            }
+            run.rows("access(6, 0) = 16", "cached(0, 3) = 16", "access(7, 0) = 17", "cached(1, 3) = 17", "cached(2, 3) = 12");
+        }
+        sixPages(check, "that used longest ago, not one that is STALE").rows("entry(2, 3, 2, 900, 7)", "cached(3, 7) = 1", "access(6, 0) = 16",
+                "cached(0, 3) = 16", "cached(3, 3) = 13");
+        sixUppers(check, "that used longest ago of the UPPER, not one that is STALE").rows("entry(0, 3, 0, 0, 0)", "upper(3, 6) = 1",
+                "access(384, 0) = -4", "upper(0, 2) = 384", "upper(3, 2) = 192");
+        sixUppers(check, "that used longest ago of the UPPER, of whichever LEVEL").rows("entry(1, 0, 1, 2, 7)", "access(320, 0) = -4",
+                "upper(0, 1) = 1", "upper(0, 2) = 320", "access(256, 0) = -4", "upper(1, 2) = 256", "access(384, 0) = -4", "upper(2, 2) = 384",
+                "upper(3, 2) = 384", "upper(3, 1) = 1");
     }
 
     private static void usedLongestAgoOfTheUpper(Check check) {
@@ -120,6 +150,18 @@ public final class CachesEdgesTest {
                 "cached(0, 7) = 1", "cached(1, 7) = 1", "cached(2, 7) = 0");
         Run.of(check, "another first ADDRESS has a PLACE of its own", "root(0, 0)", "entry(0, 0, 2, 10, 7)", "entry(0, 1, 2, 10, 7)", "current(0)",
                 "access(63, 0) = 73", "access(64, 0) = 10", "count(1) = 2", "cached(0, 2) = 0", "cached(1, 2) = 64");
+        Run.of(check, "a GLOBAL one takes the place of the one of the same TAG", "root(0, 0)", "root(1, 0)", "entry(0, 0, 2, 10, 15)", "current(0)",
+                "access(0, 0)", "begin(0, 5, 1, false)", "turn(0) = 2", "count(1) = 1", "cached(0, 5) = 1", "current(1)", "begin(0, 5, 0, false)",
+                "turn(0) = 2", "count(1) = 2", "cached(0, 0) = 0", "cached(1, 0) = 1", "cached(1, 4) = 15");
+        // What comes takes one place; those that have the same address at another level, in either cache, stay.
+        Run.of(check, "a PAGE comes to the CACHE, the UPPER stays", "root(0, 0)", "entry(0, 0, 1, 1, 7)", "entry(1, 0, 1, 2, 7)", "current(0)",
+                "begin(0, 0, 0, false)", "begin(1, 0, 0, false)", "begin(2, 0, 0, false)", "turn(0) = 1", "turn(0) = 1", "turn(1) = 1", "count(2) = 2",
+                "entry(1, 0, 2, 10, 7)", "turn(1) = 2", "count(2) = 2", "upper(1, 1) = 1", "entry(0, 0, 2, 80, 7)", "turn(2) = 2", "count(2) = 2",
+                "upper(0, 1) = 2", "count(1) = 2");
+        // A walker was begun at the root; the place of level 2 comes again behind that of level 1.
+        Run.of(check, "one of LEVEL 2 comes to the UPPER, that of LEVEL 1 stays", "root(0, 0)", "entry(0, 0, 1, 1, 7)", "entry(1, 0, 1, 2, 7)",
+                "current(0)", "begin(0, 0, 0, false)", "access(0, 0) = -4", "count(2) = 2", "turn(0) = 1", "count(2) = 2", "upper(1, 1) = 1",
+                "upper(0, 5) = 0", "upper(1, 5) = 1", "steps(1, 0) = 1");
         Run.of(check, "one LEVEL of the UPPER is not the other", "root(0, 0)", "entry(0, 0, 1, 1, 7)", "entry(1, 0, 1, 2, 7)", "current(0)",
                 "access(0, 0) = -4", "count(2) = 2", "upper(0, 1) = 2", "upper(1, 1) = 1", "upper(0, 2) = 0", "upper(1, 2) = 0");
     }
@@ -166,6 +208,18 @@ public final class CachesEdgesTest {
                 "cached(0, 0) = 2", "cached(0, 1) = 2", "cached(0, 2) = 448", "cached(0, 3) = 999", "cached(0, 4) = 15", "cached(0, 5) = 1",
                 "cached(0, 6) = 1", "cached(1, 1) = 1", "cached(1, 2) = 440", "cached(1, 3) = 999", "upper(0, 0) = 2", "upper(0, 1) = 2",
                 "upper(0, 2) = 384", "upper(0, 3) = 11", "upper(0, 4) = 7", "upper(0, 5) = 0", "upper(0, 6) = 0");
+    }
+
+    private static void asThePageWas(Check check) {
+        Run.of(check, "1 if the PAGE was DIRTY as it came: a PLACE taken anew", "root(0, 0)", "entry(0, 0, 2, 10, 15)", "entry(0, 1, 2, 80, 2)",
+                "current(0)", "access(0, 1) = 10", "cached(0, 5) = 1", "fence(0, 0) = 1", "access(64, 0) = 80", "cached(0, 0) = 0", "cached(0, 2) = 64",
+                "cached(0, 3) = 80", "cached(0, 4) = 2", "cached(0, 5) = 0");
+        Run.of(check, "1 if the PAGE was DIRTY as it came: it comes again", "root(0, 0)", "entry(0, 0, 2, 10, 7)", "current(0)", "access(0, 1) = 10",
+                "marks(0, 0, 0) = 3", "begin(0, 63, 0, false) = 1", "cached(0, 5) = 1", "turn(0) = 2", "cached(0, 5) = 0", "cached(0, 2) = 0",
+                "count(1) = 1", "access(0, 1) = 10", "cached(0, 5) = 1");
+        Run run = sixPages(check, "1 if the PAGE was DIRTY as it came: of one used longest ago");
+        run.rows("fenceAll() = 8", "access(0, 1)", "access(1, 1)", "access(2, 1)", "access(3, 1)", "access(4, 1)", "access(5, 1)", "cached(0, 5) = 1",
+                "access(6, 0) = 16", "cached(0, 3) = 16", "cached(0, 5) = 0", "access(7, 1) = 17", "cached(1, 3) = 17", "cached(1, 5) = 1");
     }
 
     private static void staleIsOfTheSpaceThatHasItsTag(Check check) {

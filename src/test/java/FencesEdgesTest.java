@@ -20,6 +20,8 @@ public final class FencesEdgesTest {
         walkersOfASpace(check);
         onlyThoseThatAreGoing(check);
         placesAfterwards(check);
+        ofEveryTag(check);
+        nothingButPlacesAndWalkers(check);
         check.end();
     }
 
@@ -160,5 +162,35 @@ public final class FencesEdgesTest {
         full(check, "a PLACE that went is empty, and the lowest is taken").rows("fence(4, 0) = 3", "fence(1, 0) = 1", "cached(1, 0) = throws",
                 "cached(4, 0) = throws", "access(4, 0) = 14", "cached(1, 3) = 14", "cached(4, 0) = throws", "access(1, 0) = 11",
                 "cached(4, 3) = 11", "count(1) = 6");
+    }
+
+    private static void ofEveryTag(Check check) {
+        for (int space = 0; space < 3; space++) {
+            Run run = new Run(check, "of its TAG, whichever that is").rows(TABLES).rows("root(2, 0)");
+            for (int other = 0; other < 3; other++) {
+                run.is(other, "current(" + other + ")").is(100, "access(3, 0)").is(1, "begin(" + other + ", " + (16 + other) + ", 0, true)");
+            }
+            run.is(3, (space % 2 == 0 ? "fenceSpace(" : "fence(3, ") + space + ")").rows("count(1) = 2", "count(2) = 4");
+            for (int other = 0; other < 3; other++) {
+                run.is(other == space ? 4 : 1, "walker(" + other + ", 0)").is(other == space ? Run.THROWN : other, "cached(" + other + ", 0)");
+            }
+        }
+    }
+
+    /** Spaces 0, 1 and 2 have the tags and 2 is current; what a fence must leave as it is is asked behind each of them. */
+    private static void nothingButPlacesAndWalkers(Check check) {
+        String[] fences = {"fence(3, 0)", "fence(3, 1)", "fence(3, 2)", "fence(3, 5)", "fenceSpace(0)", "fenceSpace(1)", "fenceSpace(2)",
+            "fenceSpace(5)", "fenceAll()"};
+        for (String fence : fences) {
+            Run run = new Run(check, "PLACES and walkers go by a FENCE, nothing else: " + fence).rows(TABLES).rows("current(0)", "access(3, 1)",
+                    "current(1)", "access(448, 0)", "current(2)", "access(0, 0) = -4").row(fence);
+            for (int space = 0; space < 3; space++) {
+                run.is(space, "space(" + space + ", 1)").is(space == 2 ? 6 : 0, "space(" + space + ", 0)");
+            }
+            run.rows("count(0) = 2", "count(5) = 3", "count(6) = 0", "count(7) = 9", "count(9) = 1", "count(10) = 8", "count(11) = 4",
+                    "count(12) = 1", "of(2, 3, 3) = 3", "of(0, 0, 1) = 1", "root(3, 0)", "root(4, 0)", "root(5, 0)");
+            // The order in which the spaces ceased is as it was: tags are recycled from 0, then 1, then 2.
+            run.rows("current(3) = 0", "space(0, 1) = -1", "current(4) = 1", "space(1, 1) = -1", "current(5) = 2", "space(2, 1) = -1");
+        }
     }
 }

@@ -21,6 +21,7 @@ public final class PermittedEdgesTest {
         roundTheForty(check);
         globalAmongTheForty(check);
         afterManyFences(check);
+        whatCachesHave(check);
         check.end();
     }
 
@@ -169,6 +170,11 @@ public final class PermittedEdgesTest {
                 "fenceSpace(1)", "permitted(1, 0, 200) = 1", "fenceAll()", "many(1, 0) = 0", "many(0, 0) = 1");
         Run.of(check, "by ROOTS that were since the FENCE of all", "root(4, 0)", "entry(0, 0, 2, 100, 8)", "root(4, -1)", "many(1, 0) = 1",
                 "fenceSpace(4)", "many(1, 0) = 1", "many(4, 0) = 1", "fenceAll()", "many(1, 0) = 0", "root(3, 0)", "many(1, 0) = 1");
+        Run.of(check, "by those as they were: a ROOT that was with a GLOBAL PAGE that is", "root(4, 0)", "root(4, 1)", "entry(0, 0, 2, 100, 8)",
+                "many(2, 0) = 1", "permitted(2, 63, 163) = 1", "fenceAll()", "many(2, 0) = 0");
+        Run.of(check, "by those as they were: an ENTRY that led on with a GLOBAL PAGE that is", "root(4, 0)", "entry(0, 0, 1, 1, 0)",
+                "entry(0, 0, 0, 0, 0)", "entry(1, 0, 2, 100, 8)", "many(2, 0) = 1", "many(4, 7) = 1", "fence(0, 4)", "many(4, 0) = 1", "fenceAll()",
+                "many(2, 0) = 0", "many(4, 7) = 0");
     }
 
     private static void whatIsNoChange(Check check) {
@@ -248,6 +254,17 @@ public final class PermittedEdgesTest {
         Run run = Run.of(check, "what was ahead of them is not: of a GLOBAL PAGE", "root(0, 0)", "entry(0, 0, 2, 100, 8)", "entry(0, 0, 2, 200, 0)");
         changes(run, 0, 39).rows("many(3, 0) = 1", "permitted(3, 0, 100) = 1");
         changes(run, 39, 1).rows("many(3, 0) = 0", "permitted(3, 0, 100) = 0", "many(0, 0) = 1");
+    }
+
+    private static void whatCachesHave(Check check) {
+        // A place of the cache outlives the memory of what it was read from.
+        Run run = Run.of(check, "by ROOTS and ENTRIES, whatever the caches have", "root(0, 0)", "entry(0, 0, 2, 100, 7)", "current(0)",
+                "access(0, 0) = 100", "entry(0, 0, 2, 200, 7)", "permitted(0, 0, 100) = 1");
+        changes(run, 0, 40).rows("access(0, 0) = 100", "permitted(0, 0, 100) = 0", "permitted(0, 0, 200) = 1", "many(0, 0) = 1");
+        // A page that was never read is permitted, too.
+        Run.of(check, "by ROOTS and ENTRIES as they were, read or not", "root(0, 0)", "entry(0, 0, 2, 100, 0)", "current(0)", "entry(0, 0, 2, 200, 0)",
+                "entry(0, 0, 2, 300, 0)", "access(0, 0) = 300", "many(0, 0) = 3", "root(3, 0)", "space(3, 1) = -1", "many(3, 0) = 3",
+                "permitted(3, 0, 300) = 1", "permitted(3, 0, 200) = 1", "fence(0, 3) = 0", "many(3, 0) = 1", "many(0, 0) = 3");
     }
 
     private static void afterManyFences(Check check) {

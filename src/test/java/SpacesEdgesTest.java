@@ -77,7 +77,7 @@ public final class SpacesEdgesTest {
 
     private static void currentWithoutItsRoot(Check check) {
         Run.of(check, "the CURRENT SPACE has lost its ROOT", "root(0, 0)", "entry(0, 0, 2, 5, 0)", "current(0) = 0", "root(0, -1) = 0",
-                "count(0) = 0", "space(0, 2) = 1", "space(0, 1) = 0", "current(0) = -1", "count(0) = 0", "space(0, 1) = 0",
+                "count(0) = 0", "space(0, 0) = -1", "space(0, 2) = 1", "space(0, 1) = 0", "current(0) = -1", "count(0) = 0", "space(0, 1) = 0",
                 "access(0, 0) = -3", "root(0, 0) = -1", "access(0, 0) = 5", "current(0) = 0");
     }
 
@@ -112,6 +112,10 @@ public final class SpacesEdgesTest {
         new Run(check, "one without a TAG that ceased longer ago has none to give").rows(SIX_ROOTS).rows("current(0)", "current(1)",
                 "current(2)", "current(3) = 0", "current(4) = 1", "current(5) = 2", "space(3, 1) = 0", "current(0) = 0",
                 "space(3, 1) = -1", "current(1) = 1", "space(4, 1) = -1");
+        // Between ceasing and losing its tag, space 0 is told roots, and others have accesses and walkers.
+        new Run(check, "to cease is to be CURRENT no longer, and no other call").rows(SIX_ROOTS).rows("current(0)", "access(0, 0)",
+                "begin(0, 0, 0, false)", "current(1)", "current(2)", "root(0, 7)", "root(0, -1)", "root(0, 0)", "entry(0, 0, 2, 5, 15)", "turn(0) = 2",
+                "fenceSpace(0) = 0", "fence(0, 0) = 1", "space(0, 1) = 0", "way(0, 0, 0) = 5", "current(3) = 0", "space(0, 1) = -1");
     }
 
     private static void roundAndRound(Check check) {
@@ -128,6 +132,9 @@ public final class SpacesEdgesTest {
         new Run(check, "a SPACE without a ROOT has its TAG until that is recycled").rows(SIX_ROOTS).rows("current(0) = 0", "current(1) = 1",
                 "root(0, -1) = 0", "space(0, 1) = 0", "current(2) = 2", "space(0, 1) = 0", "current(3) = 0", "space(0, 1) = -1",
                 "current(0) = -1");
+        new Run(check, "a SPACE without a ROOT loses its TAG in its turn").rows(SIX_ROOTS).rows("current(5) = 0", "current(1) = 1", "current(2) = 2",
+                "root(5, -1)", "current(3) = 0", "space(5, 1) = -1", "space(1, 1) = 1", "root(2, -1)", "current(4) = 1", "space(2, 1) = 2",
+                "current(0) = 2", "space(2, 1) = -1", "space(3, 1) = 0");
     }
 
     private static final String[] THREE_TAGS = {"root(0, 0)", "root(1, 0)", "root(2, 0)", "root(3, 0)", "root(4, 0)", "root(5, 0)",
@@ -144,6 +151,11 @@ public final class SpacesEdgesTest {
                 "current(2)", "current(3) = 0", "count(1) = 1", "steps(449, 0) = 0", "access(449, 0) = 301", "count(6) = 1");
         new Run(check, "a TAG of its own or the least: nothing goes").rows(THREE_TAGS).rows("current(0)", "access(0, 0)", "access(448, 0)",
                 "begin(0, 0, 0, false) = 1", "current(1)", "current(2)", "current(0)", "count(1) = 2", "count(2) = 2", "walker(0, 0) = 1");
+        for (int space = 0; space < 6; space++) {
+            new Run(check, "it keeps its own, and what is of it").rows(THREE_TAGS).is(0, "current(" + space + ")").rows("access(0, 0) = 100",
+                    "access(448, 0) = 300", "begin(0, 0, 0, false) = 1").is(1, "current(" + (space + 1) % 6 + ")").is(0, "current(" + space + ")")
+                    .is(0, "current(" + space + ")").rows("count(1) = 2", "count(2) = 2", "walker(0, 0) = 1", "steps(0, 0) = 0", "steps(511, 0) = 0");
+        }
     }
 
     private static void walkersOfThatTag(Check check) {

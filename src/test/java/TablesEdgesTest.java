@@ -7,6 +7,7 @@ public final class TablesEdgesTest {
         leastAndGreatestTable(check);
         leastAndGreatestFrame(check);
         allRights(check);
+        everyRightIsAChange(check);
         whatItWas(check);
         refusedEntries(check);
         marksUnlessAsItWas(check);
@@ -81,6 +82,18 @@ public final class TablesEdgesTest {
         }
         run.rows("entry(6, 1, 1, 3, 16) = -1", "entry(6, 1, 1, 3, -1) = -1", "of(6, 1, 2) = 15", "entry(6, 2, 2, 3, 16) = -1",
                 "entry(6, 2, 2, 3, -1) = -1", "of(6, 2, 2) = 15");
+    }
+
+    private static void everyRightIsAChange(Check check) {
+        for (int kind = 1; kind <= 2; kind++) {
+            for (int bit = 1; bit <= 8; bit *= 2) {
+                String with = "entry(0, 0, " + kind + ", 5, 15) = " + kind;
+                String without = "entry(0, 0, " + kind + ", 5, " + (15 - bit) + ") = " + kind;
+                Run.of(check, "an ENTRY told with one right more or less is another", "entry(0, 0, " + kind + ", 5, 15) = 0", "marks(0, 0, 3) = 0",
+                        without, "count(10) = 2", "of(0, 0, 3) = 0", "marks(0, 0, 3) = 0", without, "count(10) = 2", "of(0, 0, 3) = 3", with,
+                        "count(10) = 3", "of(0, 0, 2) = 15", "of(0, 0, 3) = 0").row(without).is(15 - bit, "of(0, 0, 2)");
+            }
+        }
     }
 
     private static void whatItWas(Check check) {

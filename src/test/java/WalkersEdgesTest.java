@@ -144,6 +144,9 @@ public final class WalkersEdgesTest {
         tells(run, 3, 3, 8, 3, 2, -1, 0, -1);
         run.rows("begin(3, 9, 0, false) = 1", "fence(9, 5) = 0");
         tells(run, 3, 4, 9, 0, -1, -1, 0, -1);
+        // Its steps stay those that it took, here two entries and a mark each.
+        run.rows("fenceAll() = 2", "marks(0, 0, 0) = 1", "begin(3, 5, 0, false) = 1", "turn(3) = 1", "turn(3) = 1", "fence(5, 5) = 0");
+        tells(run, 3, 4, 5, 4, -1, -1, 0, -1);
     }
 
     private static void endsAtEveryLevel(Check check) {
@@ -213,8 +216,12 @@ public final class WalkersEdgesTest {
         new Run(check, "begins as a WALK (without the CACHE)").rows(PAGED).rows("access(5, 0) = 100", "access(448, 0) = 300",
                 "begin(0, 448, 0, false) = 1", "walker(0, 4) = 2", "cached(0, 6) = 1", "turn(0) = 2", "walker(0, 2) = 1", "count(6) = 0",
                 "begin(1, 5, 4, false) = 1", "count(1) = 2", "cached(0, 6) = 1", "turn(1) = 2", "cached(0, 6) = 0", "count(1) = 2");
-        new Run(check, "a PLACE that lacks what a walker wants does not go").rows(PAGED).rows("access(448, 0) = 300",
-                "entry(0, 7, 2, 300, 3)", "begin(0, 448, 4, false) = 1", "turn(0) = 3", "count(1) = 1", "cached(0, 4) = 7");
+        new Run(check, "a PLACE that lacks what a walker wants does not go: it is not DIRTY").rows(PAGED).rows("access(448, 0) = 300",
+                "begin(0, 448, 1, false) = 1", "count(1) = 1", "cached(0, 5) = 0", "turn(0) = 2", "count(1) = 1", "cached(0, 5) = 1");
+        new Run(check, "a PLACE that lacks what a walker wants does not go: a right").rows(PAGED).rows("entry(0, 7, 2, 300, 3)",
+                "access(448, 0) = 300", "begin(0, 448, 4, false) = 1", "count(1) = 1", "turn(0) = 3", "count(1) = 1", "cached(0, 4) = 3",
+                "entry(0, 7, 2, 300, 7)", "begin(0, 448, 4, true) = 1", "count(1) = 1", "turn(0) = 2", "cached(0, 4) = 3",
+                "begin(0, 448, 4, false) = 1", "count(1) = 1", "turn(0) = 2", "cached(0, 4) = 7", "count(1) = 1");
     }
 
     private static void aGuessSetsNoMarks(Check check) {

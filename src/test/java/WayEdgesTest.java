@@ -9,6 +9,7 @@ public final class WayEdgesTest {
         rightsAsInTheCache(check);
         marksOfThePage(check);
         asItIsNow(check);
+        ofASpaceThatIsNotCurrent(check);
         reverseLeastAndGreatest(check);
         reverseOfAll(check);
         reverseUpwards(check);
@@ -89,6 +90,9 @@ public final class WayEdgesTest {
         tells(run, 3, 7, 999, 0, 0, 0);
         run.rows("entry(0, 7, 2, 999, 0)");
         tells(run, 3, 511, 1062, 2, 0, 0);
+        run.row("current(3)");
+        tells(run, 3, 7, 999, 0, 0, 0);
+        tells(run, 3, 511, 1062, 2, 0, 0);
     }
 
     private static void rightsAsInTheCache(Check check) {
@@ -116,6 +120,16 @@ public final class WayEdgesTest {
         Run.of(check, "the WAY as it is now, whatever the caches have", "root(0, 0)", "entry(0, 0, 2, 50, 7)", "current(0)", "access(0, 1)",
                 "entry(0, 0, 2, 60, 7)", "access(0, 1) = 50", "way(0, 0, 0) = 60", "way(0, 0, 3) = 0", "root(0, -1)", "access(0, 1) = 50",
                 "way(0, 0, 0) = -3", "count(7) = 2");
+    }
+
+    private static void ofASpaceThatIsNotCurrent(Check check) {
+        Run run = Run.of(check, "in a SPACE, CURRENT or not", "root(0, 0)", "root(4, 5)", "entry(0, 0, 2, 50, 7)", "entry(5, 0, 2, 300, 8)",
+                "entry(5, 7, 1, 6, 0)", "current(0)", "access(0, 0) = 50");
+        tells(run, 4, 1, 301, 2, 8, 0);
+        tells(run, 4, 511, -4, -1, -1, -1);
+        run.rows("reverse(4, 301, -1) = 1", "reverse(4, 301, 0) = 1", "reverse(4, 51, -1) = 0", "reverse(0, 51, 0) = 1", "reverse(0, 301, 0) = -1",
+                "through(4, 5, 0) = 64", "through(4, 6, 7) = 8", "through(4, 0, 0) = 0", "through(0, 0, 0) = 64", "through(0, 5, 0) = 0");
+        run.rows("entry(0, 0, 2, 60, 7)", "access(0, 0) = 50", "reverse(0, 51, -1) = 0", "reverse(0, 61, 0) = 1");
     }
 
     private static void reverseLeastAndGreatest(Check check) {
