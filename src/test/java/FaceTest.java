@@ -19,6 +19,7 @@ public final class FaceTest {
         Check check = new Check();
         theFace(check);
         aNewObject(check);
+        theExampleOfTheReadme(check);
         check.end();
     }
 
@@ -74,5 +75,10 @@ public final class FaceTest {
             check.cachedThrows(house, place, 0);
             check.upperThrows(house, place, 0);
         }
+    }
+
+    private static void theExampleOfTheReadme(Check check) {
+        Run.of(check, "README.md, Use", "root(0, 0)", "entry(0, 0, 1, 1, 7)", "entry(1, 0, 2, 300, 3)", "current(0) = 0", "access(5, 1) = 305",
+                "count(7) = 4");
     }
 }
